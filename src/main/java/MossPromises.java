@@ -151,7 +151,7 @@ public final class MossPromises {
         }
         past.remember(now);
         int found = 0;
-        for (int m = 0; m < told.promises; m++) {
+        for (int m = 0; m < PROMISES; m++) {
             if (liesIn(m, c) && told.depth[m] == now.cut[c]) {
                 // LEFT is taken ahead of FOUND, since it asks whether the promise still lies
                 now.leftWhenFound[m] = leftIn(m, 0);
@@ -173,7 +173,7 @@ public final class MossPromises {
         }
         past.remember(now);
         now.wet[c] = 0;
-        for (int m = 0; m < told.promises; m++) {
+        for (int m = 0; m < PROMISES; m++) {
             if (liesIn(m, c)) {
                 now.dried[m] = Math.min(DRIED_LAST, now.dried[m] + 1);
             }
@@ -201,8 +201,8 @@ public final class MossPromises {
         now.year++;
         int sliding = letYearPass(now.wet);
         int lost = 0;
-        for (int m = 0; m < told.promises; m++) {
-            if (now.is[m] == LIES && holds(sliding, told.cell[m])) {
+        for (int m = 0; m < PROMISES; m++) {
+            if (isNow(m, LIES) && holds(sliding, told.cell[m])) {
                 now.is[m] = LOST;
                 lost++;
             }
@@ -275,7 +275,7 @@ public final class MossPromises {
 
     public int fits() {
         int bits = 0;
-        for (int m = 0; m < told.promises; m++) {
+        for (int m = 0; m < PROMISES; m++) {
             if (beginsAsSeen(m)) {
                 bits |= 1 << m;
             }
@@ -287,7 +287,7 @@ public final class MossPromises {
         for (int word = 0; word <= WORD_LAST; word++) {
             wordVotes[word] = 0;
         }
-        for (int m = 0; m < told.promises; m++) {
+        for (int m = 0; m < PROMISES; m++) {
             if (beginsAsSeen(m) && leftIn(m, 0) > seenCount) {
                 int next = told.wordAt(m, seenCount);
                 if (next >= 0 && next <= WORD_LAST) {
@@ -436,13 +436,17 @@ public final class MossPromises {
 
     // ---- what promises are
 
+    private boolean isNow(int m, int what) {
+        return told.hasPromise(m) && now.is[m] == what;
+    }
+
     private boolean liesIn(int m, int c) {
-        return now.is[m] == LIES && told.cell[m] == c;
+        return isNow(m, LIES) && told.cell[m] == c;
     }
 
     private int lyingIn(int c) {
         int bits = 0;
-        for (int m = 0; m < told.promises; m++) {
+        for (int m = 0; m < PROMISES; m++) {
             if (liesIn(m, c)) {
                 bits |= 1 << m;
             }
@@ -452,8 +456,8 @@ public final class MossPromises {
 
     private int thoseThatAre(int what) {
         int bits = 0;
-        for (int m = 0; m < told.promises; m++) {
-            if (now.is[m] == what) {
+        for (int m = 0; m < PROMISES; m++) {
+            if (isNow(m, what)) {
                 bits |= 1 << m;
             }
         }
@@ -461,10 +465,13 @@ public final class MossPromises {
     }
 
     private boolean mayBeDone(int m, int done) {
-        return now.is[m] == FOUND && (told.clashes[m] & done) == 0;
+        return isNow(m, FOUND) && (told.clashes[m] & done) == 0;
     }
 
     private int leftIn(int m, int years) {
+        if (!told.hasPromise(m)) {
+            return 0;
+        }
         switch (now.is[m]) {
             case LIES: return lyingLeft(told.wordCount[m], told.depth[m], now.year + years, now.dried[m]);
             case LOST: return 0;
@@ -478,10 +485,10 @@ public final class MossPromises {
     }
 
     private boolean beginsAsSeen(int m) {
-        if (now.is[m] != LIES || leftIn(m, 0) < seenCount) {
+        if (!isNow(m, LIES) || leftIn(m, 0) < seenCount) {
             return false;
         }
-        for (int k = 0; k < seenCount; k++) {
+        for (int k = 0; k < seenCount && k < WORDS; k++) {
             if (told.wordAt(m, k) != seen[k]) {
                 return false;
             }
@@ -549,7 +556,7 @@ public final class MossPromises {
     private int bestKept() {
         int done = thoseThatAre(DONE);
         int may = 0;
-        for (int m = 0; m < told.promises; m++) {
+        for (int m = 0; m < PROMISES; m++) {
             if (mayBeDone(m, done)) {
                 may |= 1 << m;
             }
@@ -566,7 +573,7 @@ public final class MossPromises {
     }
 
     private boolean clashesWithin(int set) {
-        for (int m = 0; m < told.promises; m++) {
+        for (int m = 0; m < PROMISES; m++) {
             if (holds(set, m) && (told.clashes[m] & set) != 0) {
                 return true;
             }
@@ -576,7 +583,7 @@ public final class MossPromises {
 
     private int wordsLeftOf(int set) {
         int words = 0;
-        for (int m = 0; m < told.promises; m++) {
+        for (int m = 0; m < PROMISES; m++) {
             if (holds(set, m)) {
                 words += leftIn(m, 0);
             }
@@ -616,7 +623,7 @@ public final class MossPromises {
     private int earliestDue(int set) {
         int best = NONE;
         int due = TOLD_YEAR_LAST + 1;
-        for (int m = 0; m < told.promises; m++) {
+        for (int m = 0; m < PROMISES; m++) {
             if (holds(set, m) && told.due[m] < due) {
                 best = m;
                 due = told.due[m];

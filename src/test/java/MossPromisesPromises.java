@@ -334,6 +334,12 @@ public final class MossPromisesPromises {
         due("s 7: cell(5, 3)", x.cell(5, 3), 5);
         x = told("s1;");
         due("s 1: cell(5, 3)", x.cell(5, 3), 1);
+        x = years(told("s26;"), 4);
+        x.drains(3);
+        years(x, 2);
+        due("s 26: cell(2, 3), 51 years", x.cell(2, 3), -9);
+        x.year();
+        due("s 26: cell(2, 3), 50 years", x.cell(2, 3), 50);
     }
 
     private static void now() {
@@ -459,6 +465,13 @@ public final class MossPromisesPromises {
         years(x, 30);
         due("cell(0, 1)", x.cell(0, 1), 9);
         due("cell(1, 1)", x.cell(1, 1), 3);
+        // 999 lies behind the 512th call, where the document leaves answers free: the program keeps to it all the same
+        x = years(new MossPromises(), 998);
+        due("year() in 998", x.year(), 0);
+        due("now(0)", x.now(0), 999);
+        due("year() in 999", x.year(), -2);
+        due("now(0)", x.now(0), 999);
+        due("now(5)", x.now(5), 10);
     }
 
     private static void undo() {
